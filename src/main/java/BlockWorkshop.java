@@ -32,7 +32,7 @@ public final class BlockWorkshop {
             kit[p] = new Piece();
         }
         assembly = new long[PIECES];
-        search = new Search();
+        search = new Search(kit);
         unlocker = new Unlocker();
     }
 
@@ -87,7 +87,7 @@ public final class BlockWorkshop {
 
     public int pack(int budget) throws IllegalArgumentException {
         checkBudget(budget);
-        search.run(kit, sureCells, optionalCells, budget, Search.NO_PACKING);
+        search.run(sureCells, optionalCells, budget, Search.NO_PACKING);
         return search.wasEnough() ? search.countFound() : -1 - search.countFound();
     }
 
@@ -100,7 +100,7 @@ public final class BlockWorkshop {
             throw new IllegalArgumentException("no such packing");
         }
         checkBudget(budget);
-        search.run(kit, sureCells, optionalCells, budget, k);
+        search.run(sureCells, optionalCells, budget, k);
         if (!search.hasWanted()) {
             return false;
         }
@@ -185,6 +185,11 @@ public final class BlockWorkshop {
         }
     }
 
+    /** The lowest piece of a mask that is not empty. */
+    private static int lowestPiece(int mask) {
+        return Integer.bitCount((mask & -mask) - 1);
+    }
+
     /** Sets of cells of the box, and how they turn and move. */
     private static final class Box {
         /** How far one step along an axis goes in cell numbers. */
@@ -207,6 +212,11 @@ public final class BlockWorkshop {
         /** Compares as numbers without a sign, since cell 63 is the sign's bit. */
         static boolean isBelow(long a, long b) {
             return (a ^ (1L << 63)) < (b ^ (1L << 63));
+        }
+
+        /** The lowest cell of a set that is not empty. */
+        static int lowest(long set) {
+            return Long.bitCount((set & -set) - 1L);
         }
 
         static int least(long set, int axis) {
@@ -257,7 +267,7 @@ public final class BlockWorkshop {
             int signs = turn % SIGNS;
             long result = 0L;
             for (long rest = set; rest != 0L; rest &= rest - 1L) {
-                int cell = Long.numberOfTrailingZeros(rest);
+                int cell = lowest(rest);
                 int to = 0;
                 for (int axis = 0; axis < AXES; axis++) {
                     int at = cell / STRIDE[ORDERS[order + axis]] % SIDE;
@@ -332,10 +342,7 @@ public final class BlockWorkshop {
             forget();
         }
 
-        boolean isMade() {
-            return countShapes() > 0;
-        }
-
+        /** None when the piece is unmade. */
         int countShapes() {
             learnShapes();
             return shapeCount;
@@ -448,7 +455,7 @@ public final class BlockWorkshop {
             int old = placeCount - 1;
             int add = count - 1;
             placeCount += count;
-            for (int to = placeCount - 1; add >= 0; to--) {
+            for (int to = placeCount - 1; to >= 0 && add >= 0; to--) {
                 if (old >= 0 && Box.isBelow(ofOneShape[add], placeSets[old])) {
                     placeSets[to] = placeSets[old];
                     old--;
@@ -466,7 +473,7 @@ public final class BlockWorkshop {
                 long bit = 1L << (k % 64);
                 having[ANY_CELL * WORDS + word] |= bit;
                 for (long rest = placeSets[k]; rest != 0L; rest &= rest - 1L) {
-                    having[Long.numberOfTrailingZeros(rest) * WORDS + word] |= bit;
+                    having[Box.lowest(rest) * WORDS + word] |= bit;
                 }
             }
         }
@@ -476,8 +483,8 @@ public final class BlockWorkshop {
     private static final class Search {
         static final int NO_PACKING = -1;
 
+        private final Piece[] kit;
         private final long[] chosen;
-        private Piece[] kit;
         private long sure;
         private int budget;
         private int wanted;
@@ -486,7 +493,8 @@ public final class BlockWorkshop {
         private boolean ended;
         private boolean enough;
 
-        Search() {
+        Search(Piece[] pieces) {
+            kit = pieces;
             chosen = new long[PIECES];
         }
 
@@ -511,8 +519,7 @@ public final class BlockWorkshop {
         }
 
         /** Ends at the packing that is wanted; with none wanted it looks for all. */
-        void run(Piece[] pieces, long sureCells, long optionalCells, int tries, int want) {
-            kit = pieces;
+        void run(long sureCells, long optionalCells, int tries, int want) {
             sure = sureCells;
             budget = tries;
             wanted = want;
@@ -523,8 +530,8 @@ public final class BlockWorkshop {
             int left = 0;
             for (int p = 0; p < PIECES; p++) {
                 chosen[p] = 0L;
-                if (pieces[p].isMade()) {
-                    pieces[p].learnPlaces(sureCells | optionalCells);
+                if (kit[p].countShapes() > 0) {
+                    kit[p].learnPlaces(sureCells | optionalCells);
                     left |= 1 << p;
                 }
             }
@@ -538,11 +545,11 @@ public final class BlockWorkshop {
                     countPacking();
                 }
             } else if (open == 0L) {
-                tryPiece(Integer.numberOfTrailingZeros(left), Piece.ANY_CELL, depth, taken, left);
+                tryPiece(lowestPiece(left), Piece.ANY_CELL, depth, taken, left);
             } else {
-                int cell = Long.numberOfTrailingZeros(open);
+                int cell = Box.lowest(open);
                 for (int rest = left; rest != 0 && !ended; rest &= rest - 1) {
-                    tryPiece(Integer.numberOfTrailingZeros(rest), cell, depth, taken, left);
+                    tryPiece(lowestPiece(rest), cell, depth, taken, left);
                 }
             }
         }
@@ -565,7 +572,7 @@ public final class BlockWorkshop {
                         return;
                     }
                     tried++;
-                    long place = piece.placeAt(word * 64 + Long.numberOfTrailingZeros(bits));
+                    long place = piece.placeAt(word * 64 + Box.lowest(bits));
                     if ((place & taken) == 0L) {
                         chosen[p] = place;
                         goOn(depth + 1, taken | place, left & ~(1 << p));
@@ -672,8 +679,10 @@ public final class BlockWorkshop {
 
         void start() {
             Arrays.fill(heads, NONE);
-            Arrays.fill(at, 0, WIDTH, 0);
             count = 0;
+            for (int i = 0; i < WIDTH; i++) {
+                at[i] = 0;
+            }
             add(NONE, 0);
         }
 
@@ -799,9 +808,8 @@ public final class BlockWorkshop {
          */
         private int expand(int state) {
             measureRoom(state);
-            int highest = Integer.highestOneBit(part);
-            for (int group = 1; group < highest; group++) {
-                if ((group & ~part) == 0) {
+            for (int group = 1; group < part; group++) {
+                if ((group & ~part) == 0 && group < (part & ~group)) {
                     measureBoxes(state, group);
                     for (int direction = 0; direction < DIRECTIONS; direction++) {
                         int answer = tryRuns(state, group, direction);
@@ -906,9 +914,9 @@ public final class BlockWorkshop {
             int rest = part & ~group;
             int least = MOST_RUN;
             for (int g = group; g != 0; g &= g - 1) {
-                int from = roomIndex(direction, Integer.numberOfTrailingZeros(g), 0);
+                int from = roomIndex(direction, lowestPiece(g), 0);
                 for (int r = rest; r != 0; r &= r - 1) {
-                    least = Math.min(least, room[from + Integer.numberOfTrailingZeros(r)]);
+                    least = Math.min(least, room[from + lowestPiece(r)]);
                 }
                 if (least == 0) {
                     return 0;

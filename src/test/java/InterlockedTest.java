@@ -44,21 +44,33 @@ public final class InterlockedTest {
         {5, 8, 27022018706682368L, 281479406356620L, 432349962353770594L}
     };
 
-    private InterlockedTest() {
+    /** Keeps an object below its 512 calls. */
+    private static final int PLANS_OF_AN_OBJECT = 30;
+
+    private final String name;
+    private final long[] row;
+    private BlockWorkshop real;
+    private NaiveWorkshop naive;
+    private int plans;
+
+    private InterlockedTest(String name, long[] row) {
+        this.name = name;
+        this.row = row;
+        build();
     }
 
     public static void main(String[] args) {
         for (int i = 0; i < ASSEMBLIES.length; i++) {
-            compare("assembly " + i, ASSEMBLIES[i]);
+            new InterlockedTest("assembly " + i, ASSEMBLIES[i]).compare();
         }
         Check.end();
     }
 
-    private static void compare(String name, long[] row) {
-        BlockWorkshop real = new BlockWorkshop();
-        NaiveWorkshop naive = new NaiveWorkshop();
-        int count = row.length - 2;
-        for (int p = 0; p < count; p++) {
+    private void build() {
+        real = new BlockWorkshop();
+        naive = new NaiveWorkshop();
+        plans = 0;
+        for (int p = 0; p < row.length - 2; p++) {
             for (int cell = 0; cell < 64; cell++) {
                 if ((row[p + 2] >>> cell & 1) != 0) {
                     real.cube(p, cell, true);
@@ -68,19 +80,26 @@ public final class InterlockedTest {
             real.put(p, row[p + 2]);
             naive.put(p, row[p + 2]);
         }
-        int all = (1 << count) - 1;
+    }
+
+    private void compare() {
+        int all = (1 << row.length - 2) - 1;
         int states = (int) row[1];
         Check.due(name + ": plan", row[0], () -> real.plan(all, 300));
         Check.due(name + ": states", states, real::states);
         for (int limit = 1; limit <= states + 1; limit++) {
-            comparePlan(name, real, naive, all, limit);
+            comparePlan(all, limit);
         }
         for (int part = -1; part <= 64; part++) {
-            comparePlan(name, real, naive, part, 300);
+            comparePlan(part, 300);
         }
     }
 
-    private static void comparePlan(String name, BlockWorkshop real, NaiveWorkshop naive, int part, int limit) {
+    private void comparePlan(int part, int limit) {
+        plans++;
+        if (plans > PLANS_OF_AN_OBJECT) {
+            build();
+        }
         String call = name + ": plan(" + part + ", " + limit + ")";
         Check.same(call, Check.answerOf(() -> naive.plan(part, limit)), Check.answerOf(() -> real.plan(part, limit)));
         Check.due(call + ": states()", naive.states(), real::states);

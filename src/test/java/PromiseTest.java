@@ -519,7 +519,7 @@ public final class PromiseTest {
         for (int cell = 0; cell < 64; cell++) {
             x.target(cell, 2);
         }
-        for (int i = 0; i < 400; i++) {
+        for (int i = 0; i < 200; i++) {
             x.mirror(i % 2, i % 4 < 2);
             x.pack(1000);
         }
