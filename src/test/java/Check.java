@@ -6,6 +6,7 @@ final class Check {
     static final String INDEX = "throws.IndexOutOfBoundsException";
 
     private static int wrong = 0;
+    private static String sentence = "";
 
     private Check() {
     }
@@ -18,6 +19,17 @@ final class Check {
     /** A call of the program that answers nothing. */
     interface Deed {
         void make();
+    }
+
+    /** Runs the test of one sentence of the document, which is named when an answer is not as due. */
+    static void sentence(String words, Deed test) {
+        sentence = words + " -- ";
+        try {
+            test.make();
+        } catch (RuntimeException e) {
+            same("a call that should have gone well", "done", "throws." + e.getClass().getSimpleName());
+        }
+        sentence = "";
     }
 
     static String answerOf(Call call) {
@@ -50,7 +62,7 @@ final class Check {
     static void same(String what, String want, String got) {
         if (!want.equals(got)) {
             wrong++;
-            System.out.println(what + ": answered " + got + ", due is " + want);
+            System.out.println(sentence + what + ": answered " + got + ", due is " + want);
         }
     }
 

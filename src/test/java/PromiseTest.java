@@ -1,8 +1,5 @@
 /** For each promise of the document: ordinary inputs, the edges that it names, and wrong inputs. */
 public final class PromiseTest {
-    private static final int[] NO_PIECES = {-1, 6, 64, Integer.MIN_VALUE, Integer.MAX_VALUE};
-    private static final int[] NO_CELLS = {-1, 64, Integer.MIN_VALUE, Integer.MAX_VALUE};
-    private static final int[] NO_BUDGETS = {0, -1, 200001, Integer.MIN_VALUE, Integer.MAX_VALUE};
     /** Eight cubes around a hole, flat in z = 1, and eight around another, flat in y = 1, through both holes. */
     private static final int[] RING = {16, 17, 18, 20, 22, 24, 25, 26};
     private static final int[] LINKED_RING = {5, 6, 7, 21, 23, 37, 38, 39};
@@ -35,36 +32,6 @@ public final class PromiseTest {
         Check.end();
     }
 
-    private static BlockWorkshop with(int[]... pieces) {
-        BlockWorkshop x = new BlockWorkshop();
-        for (int p = 0; p < pieces.length; p++) {
-            for (int cell : pieces[p]) {
-                x.cube(p, cell, true);
-            }
-        }
-        return x;
-    }
-
-    private static long set(int... cells) {
-        long bits = 0;
-        for (int cell : cells) {
-            bits |= 1L << cell;
-        }
-        return bits;
-    }
-
-    private static void aim(BlockWorkshop x, int kind, int... cells) {
-        for (int cell : cells) {
-            x.target(cell, kind);
-        }
-    }
-
-    private static BlockWorkshop twoDominoes() {
-        BlockWorkshop x = with(new int[] {0, 1}, new int[] {0, 1});
-        aim(x, 1, 0, 1, 4, 5);
-        return x;
-    }
-
     private static void newObject() {
         BlockWorkshop x = new BlockWorkshop();
         for (int p = 0; p < 6; p++) {
@@ -95,7 +62,7 @@ public final class PromiseTest {
         Check.due("2: each piece has its own", 1, () -> x.cube(4, 63, true));
         Check.due("2: off to none", 0, () -> x.cube(4, 63, false));
 
-        BlockWorkshop y = with(new int[] {0}, new int[] {1, 2});
+        BlockWorkshop y = Build.with(new int[] {0}, new int[] {1, 2});
         y.put(0, 1L << 10);
         y.put(1, 3L);
         y.cube(1, 3, true);
@@ -107,12 +74,12 @@ public final class PromiseTest {
     }
 
     private static void cubeRefuses() {
-        BlockWorkshop x = with(new int[] {0, 1, 2, 3, 4, 5, 6, 7, 8, 9});
+        BlockWorkshop x = Build.with(new int[] {0, 1, 2, 3, 4, 5, 6, 7, 8, 9});
         x.put(0, 1023L);
-        for (int piece : NO_PIECES) {
+        for (int piece : Build.NO_PIECES) {
             Check.refused("2: piece " + piece, Check.ARGUMENT, () -> x.cube(piece, 0, true));
         }
-        for (int cell : NO_CELLS) {
+        for (int cell : Build.NO_CELLS) {
             Check.refused("2: cell " + cell, Check.ARGUMENT, () -> x.cube(0, cell, true));
             Check.refused("2: cell " + cell, Check.ARGUMENT, () -> x.cube(0, cell, false));
         }
@@ -125,23 +92,23 @@ public final class PromiseTest {
     }
 
     private static void mirrorMakesMoreShapes() {
-        BlockWorkshop x = with(new int[] {0, 1, 5, 21}, new int[] {0, 1, 5, 21}, new int[] {0, 1, 2, 3, 4});
+        BlockWorkshop x = Build.with(new int[] {0, 1, 5, 21}, new int[] {0, 1, 5, 21}, new int[] {0, 1, 2, 3, 4});
         Check.due("3: not at first", 12, () -> x.shapes(0));
         Check.done("3: may", () -> x.mirror(0, true));
         Check.due("3: both hands", 24, () -> x.shapes(0));
         Check.due("3: of that piece alone", 12, () -> x.shapes(1));
         Check.done("3: may already", () -> x.mirror(0, true));
-        x.put(0, set(0, 4, 5, 21));
+        x.put(0, Build.set(0, 4, 5, 21));
         Check.done("3: may not", () -> x.mirror(0, false));
         Check.due("3: one hand", 12, () -> x.shapes(0));
-        Check.due("3: what is assembled stays", set(0, 4, 5, 21), () -> x.cells(0));
-        Check.refused("3: its mirror image", Check.ARGUMENT, () -> x.put(0, set(0, 4, 5, 21)));
+        Check.due("3: what is assembled stays", Build.set(0, 4, 5, 21), () -> x.cells(0));
+        Check.refused("3: its mirror image", Check.ARGUMENT, () -> x.put(0, Build.set(0, 4, 5, 21)));
         x.mirror(2, true);
         Check.due("3: a flat piece is its own image", 24, () -> x.shapes(2));
-        for (int piece : NO_PIECES) {
+        for (int piece : Build.NO_PIECES) {
             Check.refused("3: piece " + piece, Check.ARGUMENT, () -> x.mirror(piece, true));
         }
-        aim(x, 2, 0, 1, 4, 5, 16, 17, 20, 21);
+        Build.aim(x, 2, 0, 1, 4, 5, 16, 17, 20, 21);
         Check.due("3: places of one hand", 12, () -> x.places(1));
         x.mirror(1, true);
         Check.due("3: places of both", 24, () -> x.places(1));
@@ -152,14 +119,14 @@ public final class PromiseTest {
     private static void shapesCount() {
         int[][] pieces = {{63}, {42, 43}, {0, 1, 4}, {0, 1, 2, 5}, {0, 1, 4, 5}, {0, 1, 2, 3, 4, 20}};
         int[] due = {1, 3, 12, 12, 3, 24};
-        BlockWorkshop x = with(pieces);
+        BlockWorkshop x = Build.with(pieces);
         for (int p = 0; p < 6; p++) {
             int piece = p;
             Check.due("4: shapes of " + p, due[p], () -> x.shapes(piece));
         }
         x.mirror(5, true);
         Check.due("4: all 48", 48, () -> x.shapes(5));
-        BlockWorkshop y = with(new int[] {0, 5}, new int[] {3, 4}, new int[] {15, 16}, new int[] {0, 63},
+        BlockWorkshop y = Build.with(new int[] {0, 5}, new int[] {3, 4}, new int[] {15, 16}, new int[] {0, 63},
                 new int[] {0, 1, 3}, new int[] {0, 1, 2, 18, 34, 35, 39, 43, 59});
         for (int p = 0; p < 5; p++) {
             int piece = p;
@@ -170,17 +137,18 @@ public final class PromiseTest {
         Check.due("4: a long row hangs together", 24, () -> y.shapes(5));
         Check.due("4: made again by a cube", 3, () -> y.cube(0, 1, true));
         Check.due("4: made again by a cube", 12, () -> y.shapes(0));
-        for (int piece : NO_PIECES) {
+        for (int piece : Build.NO_PIECES) {
             Check.refused("4: piece " + piece, Check.ARGUMENT, () -> y.shapes(piece));
         }
     }
 
     private static void shapeListsByRisingNumber() {
-        BlockWorkshop x = with(new int[] {61, 62, 63}, new int[] {0, 1, 4},
+        BlockWorkshop x = Build.with(new int[] {61, 62, 63}, new int[] {0, 1, 4},
                 new int[] {0, 1, 2, 3, 7, 11, 15, 31, 47, 63});
-        long[] row = {set(0, 1, 2), set(0, 4, 8), set(0, 16, 32)};
-        long[] corner = {set(0, 1, 4), set(0, 1, 5), set(0, 4, 5), set(1, 4, 5), set(0, 1, 16), set(0, 4, 16),
-            set(0, 1, 17), set(0, 16, 17), set(1, 16, 17), set(0, 4, 20), set(0, 16, 20), set(4, 16, 20)};
+        long[] row = {Build.set(0, 1, 2), Build.set(0, 4, 8), Build.set(0, 16, 32)};
+        long[] corner = {Build.set(0, 1, 4), Build.set(0, 1, 5), Build.set(0, 4, 5), Build.set(1, 4, 5),
+            Build.set(0, 1, 16), Build.set(0, 4, 16), Build.set(0, 1, 17), Build.set(0, 16, 17),
+            Build.set(1, 16, 17), Build.set(0, 4, 20), Build.set(0, 16, 20), Build.set(4, 16, 20)};
         for (int i = 0; i < 3; i++) {
             int k = i;
             Check.due("5: row", row[k], () -> x.shape(0, k));
@@ -203,13 +171,13 @@ public final class PromiseTest {
         Check.refused("5: shape 0 of an unmade piece", Check.INDEX, () -> x.shape(5, 0));
         Check.refused("5: far beyond", Check.INDEX, () -> x.shape(0, Integer.MAX_VALUE));
         Check.refused("5: far below", Check.INDEX, () -> x.shape(0, Integer.MIN_VALUE));
-        for (int piece : NO_PIECES) {
+        for (int piece : Build.NO_PIECES) {
             Check.refused("5: piece " + piece, Check.ARGUMENT, () -> x.shape(piece, -1));
         }
     }
 
     private static void targetHasKinds() {
-        BlockWorkshop x = with(new int[] {0});
+        BlockWorkshop x = Build.with(new int[] {0});
         x.target(63, 1);
         Check.due("6: sure is in", 1, () -> x.places(0));
         x.target(62, 2);
@@ -224,17 +192,17 @@ public final class PromiseTest {
         x.target(63, 0);
         Check.due("6: optional to out", 0, () -> x.places(0));
         Check.done("6: out already", () -> x.target(63, 0));
-        for (int cell : NO_CELLS) {
+        for (int cell : Build.NO_CELLS) {
             Check.refused("6: cell " + cell, Check.ARGUMENT, () -> x.target(cell, 1));
         }
-        for (int kind : new int[] {-1, 3, Integer.MIN_VALUE, Integer.MAX_VALUE}) {
+        for (int kind : Build.NO_KINDS) {
             Check.refused("6: kind " + kind, Check.ARGUMENT, () -> x.target(5, kind));
         }
         Check.due("6: refused calls change nothing", 0, () -> x.places(0));
     }
 
     private static void placesCount() {
-        BlockWorkshop x = with(new int[] {0}, new int[] {62, 63}, new int[] {0, 1, 2, 3},
+        BlockWorkshop x = Build.with(new int[] {0}, new int[] {62, 63}, new int[] {0, 1, 2, 3},
                 new int[] {0, 1, 2, 4, 17}, new int[] {0, 1, 2, 3, 7, 11, 15, 31, 47, 63});
         x.mirror(3, true);
         for (int cell = 0; cell < 64; cell++) {
@@ -251,13 +219,13 @@ public final class PromiseTest {
         Check.due("7: a cell less", 138, () -> x.places(1));
         x.cube(0, 1, true);
         Check.due("7: after a change of the piece", 138, () -> x.places(0));
-        for (int piece : NO_PIECES) {
+        for (int piece : Build.NO_PIECES) {
             Check.refused("7: piece " + piece, Check.ARGUMENT, () -> x.places(piece));
         }
     }
 
     private static void packCountsExactly() {
-        BlockWorkshop x = twoDominoes();
+        BlockWorkshop x = Build.twoDominoes();
         Check.due("8: two dominoes in a square", 4, () -> x.pack(200000));
         Check.due("9: tries", 12, x::tries);
         Check.due("8: just enough", 4, () -> x.pack(12));
@@ -267,26 +235,26 @@ public final class PromiseTest {
         Check.due("8: before the first packing", -1, () -> x.pack(2));
         Check.due("8: the least budget", -1, () -> x.pack(1));
         Check.due("9: one try", 1, x::tries);
-        for (int budget : NO_BUDGETS) {
+        for (int budget : Build.NO_BUDGETS) {
             Check.refused("8: budget " + budget, Check.ARGUMENT, () -> x.pack(budget));
         }
         Check.due("9: a refused search is none", 1, x::tries);
     }
 
     private static void packWithOptionalCells() {
-        BlockWorkshop x = with(new int[] {0}, new int[] {0});
-        aim(x, 2, 61, 62, 63);
+        BlockWorkshop x = Build.with(new int[] {0}, new int[] {0});
+        Build.aim(x, 2, 61, 62, 63);
         Check.due("8: two cubes in three cells", 6, () -> x.pack(100));
         Check.due("9: piece 0, then piece 1, in each", 12, x::tries);
         x.target(63, 1);
         Check.due("8: one of the cells is sure", 4, () -> x.pack(100));
         Check.due("9: the sure cell first, by pieces", 8, x::tries);
-        BlockWorkshop y = with(new int[] {0, 1}, new int[] {0});
-        aim(y, 2, 0);
-        aim(y, 1, 1);
+        BlockWorkshop y = Build.with(new int[] {0, 1}, new int[] {0});
+        Build.aim(y, 2, 0);
+        Build.aim(y, 1, 1);
         Check.due("8: a place may take optional cells below", 0, () -> y.pack(100));
         Check.due("9: also of places that meet what is taken", 5, y::tries);
-        aim(y, 2, 2);
+        Build.aim(y, 2, 2);
         Check.due("8: with room", 2, () -> y.pack(100));
     }
 
@@ -302,13 +270,14 @@ public final class PromiseTest {
         Check.due("8: nothing to place", 1, () -> x.pack(1));
         x.cube(0, 1, true);
         Check.due("8: no room", 0, () -> x.pack(1));
-        aim(x, 1, 0, 1, 2, 4);
+        Build.aim(x, 1, 0, 1, 2, 4);
         Check.due("8: sure cells left", 0, () -> x.pack(9));
         Check.due("9: one place has cell 0", 1, x::tries);
-        aim(x, 2, 4);
+        Build.aim(x, 2, 4);
         Check.due("8: an optional one may be left", 1, () -> x.pack(1));
 
-        BlockWorkshop y = with(new int[] {0}, new int[] {0}, new int[] {0}, new int[] {0}, new int[] {0}, new int[] {0});
+        BlockWorkshop y = Build.with(Build.piece(0), Build.piece(0), Build.piece(0), Build.piece(0), Build.piece(0),
+                Build.piece(0));
         for (int cell = 0; cell < 64; cell++) {
             y.target(cell, 2);
         }
@@ -327,7 +296,7 @@ public final class PromiseTest {
     }
 
     private static void triesCount() {
-        BlockWorkshop x = twoDominoes();
+        BlockWorkshop x = Build.twoDominoes();
         Check.due("9: before any", 0, x::tries);
         int[] up = {3, 6, 9, 12};
         for (int i = 0; i < 4; i++) {
@@ -345,9 +314,9 @@ public final class PromiseTest {
     }
 
     private static void assembleTakesAPacking() {
-        BlockWorkshop x = twoDominoes();
-        long[] first = {set(0, 1), set(0, 4), set(4, 5), set(1, 5)};
-        long[] second = {set(4, 5), set(1, 5), set(0, 1), set(0, 4)};
+        BlockWorkshop x = Build.twoDominoes();
+        long[] first = {Build.set(0, 1), Build.set(0, 4), Build.set(4, 5), Build.set(1, 5)};
+        long[] second = {Build.set(4, 5), Build.set(1, 5), Build.set(0, 1), Build.set(0, 4)};
         for (int i = 0; i < 4; i++) {
             int k = i;
             x.assemble(k, 200000);
@@ -361,8 +330,8 @@ public final class PromiseTest {
         Check.due("10: the budget is too small", false, () -> x.assemble(0, 2));
         Check.due("10: leaves it", second[3], () -> x.cells(1));
 
-        BlockWorkshop y = with(new int[] {0});
-        aim(y, 2, 62, 63, 0);
+        BlockWorkshop y = Build.with(new int[] {0});
+        Build.aim(y, 2, 62, 63, 0);
         for (int i = 0; i < 3; i++) {
             int k = i;
             y.assemble(k, 10);
@@ -371,9 +340,9 @@ public final class PromiseTest {
     }
 
     private static void assembleRefuses() {
-        BlockWorkshop x = twoDominoes();
+        BlockWorkshop x = Build.twoDominoes();
         x.assemble(0, 100);
-        for (int budget : NO_BUDGETS) {
+        for (int budget : Build.NO_BUDGETS) {
             Check.refused("10: budget " + budget, Check.ARGUMENT, () -> x.assemble(1, budget));
         }
         Check.refused("10: k -1", Check.ARGUMENT, () -> x.assemble(-1, 100));
@@ -383,33 +352,33 @@ public final class PromiseTest {
     }
 
     private static void putPlaces() {
-        BlockWorkshop x = with(new int[] {0, 1, 2}, new int[] {0, 1}, new int[] {0, 2});
-        Check.done("11: whatever the target says", () -> x.put(0, set(61, 62, 63)));
-        Check.due("11: there", set(61, 62, 63), () -> x.cells(0));
-        Check.done("11: over where it was", () -> x.put(0, set(60, 61, 62)));
-        Check.due("11: there", set(60, 61, 62), () -> x.cells(0));
-        Check.done("11: where it is", () -> x.put(0, set(60, 61, 62)));
-        Check.refused("11: on another piece", Check.STATE, () -> x.put(1, set(62, 63)));
+        BlockWorkshop x = Build.with(new int[] {0, 1, 2}, new int[] {0, 1}, new int[] {0, 2});
+        Check.done("11: whatever the target says", () -> x.put(0, Build.set(61, 62, 63)));
+        Check.due("11: there", Build.set(61, 62, 63), () -> x.cells(0));
+        Check.done("11: over where it was", () -> x.put(0, Build.set(60, 61, 62)));
+        Check.due("11: there", Build.set(60, 61, 62), () -> x.cells(0));
+        Check.done("11: where it is", () -> x.put(0, Build.set(60, 61, 62)));
+        Check.refused("11: on another piece", Check.STATE, () -> x.put(1, Build.set(62, 63)));
         Check.due("11: refused", 0, () -> x.cells(1));
-        Check.done("11: beside it", () -> x.put(1, set(47, 63)));
-        Check.refused("11: on another piece", Check.STATE, () -> x.put(0, set(31, 47, 63)));
-        Check.due("11: refused, it stays", set(60, 61, 62), () -> x.cells(0));
-        long[] none = {0L, 1L, set(0, 2), set(3, 4), set(15, 16), set(2, 3, 4), -1L, Long.MIN_VALUE, Long.MAX_VALUE,
-            set(62, 63, 61, 60)};
+        Check.done("11: beside it", () -> x.put(1, Build.set(47, 63)));
+        Check.refused("11: on another piece", Check.STATE, () -> x.put(0, Build.set(31, 47, 63)));
+        Check.due("11: refused, it stays", Build.set(60, 61, 62), () -> x.cells(0));
+        long[] none = {0L, 1L, Build.set(0, 2), Build.set(3, 4), Build.set(15, 16), Build.set(2, 3, 4),
+            -1L, Long.MIN_VALUE, Long.MAX_VALUE, Build.set(62, 63, 61, 60)};
         for (long bits : none) {
             Check.refused("11: set " + bits, Check.ARGUMENT, () -> x.put(1, bits));
         }
-        Check.refused("11: an unmade piece", Check.ARGUMENT, () -> x.put(2, set(0, 2)));
+        Check.refused("11: an unmade piece", Check.ARGUMENT, () -> x.put(2, Build.set(0, 2)));
         Check.refused("11: a piece without cubes", Check.ARGUMENT, () -> x.put(3, 0L));
-        Check.refused("11: no shape goes before taken", Check.ARGUMENT, () -> x.put(1, set(60, 62)));
-        Check.due("11: refused, it stays", set(47, 63), () -> x.cells(1));
-        for (int piece : NO_PIECES) {
+        Check.refused("11: no shape goes before taken", Check.ARGUMENT, () -> x.put(1, Build.set(60, 62)));
+        Check.due("11: refused, it stays", Build.set(47, 63), () -> x.cells(1));
+        for (int piece : Build.NO_PIECES) {
             Check.refused("11: piece " + piece, Check.ARGUMENT, () -> x.put(piece, 3L));
         }
     }
 
     private static void takeAndCells() {
-        BlockWorkshop x = with(new int[] {0}, new int[] {0});
+        BlockWorkshop x = Build.with(new int[] {0}, new int[] {0});
         x.put(0, Long.MIN_VALUE);
         x.put(1, 1L);
         Check.due("13: cells", Long.MIN_VALUE, () -> x.cells(0));
@@ -419,14 +388,14 @@ public final class PromiseTest {
         Check.refused("12: taken already", Check.STATE, () -> x.take(0));
         Check.refused("12: never put", Check.STATE, () -> x.take(5));
         Check.done("12: room for another", () -> x.put(1, Long.MIN_VALUE));
-        for (int piece : NO_PIECES) {
+        for (int piece : Build.NO_PIECES) {
             Check.refused("12: piece " + piece, Check.ARGUMENT, () -> x.take(piece));
             Check.refused("13: piece " + piece, Check.ARGUMENT, () -> x.cells(piece));
         }
     }
 
     private static void planOfTwo() {
-        BlockWorkshop x = with(new int[] {0}, new int[] {0}, new int[] {0});
+        BlockWorkshop x = Build.with(new int[] {0}, new int[] {0}, new int[] {0});
         x.put(0, 1L);
         x.put(1, 1L << 63);
         Check.due("14: apart already", 1, () -> x.plan(3, 1));
@@ -440,9 +409,9 @@ public final class PromiseTest {
         Check.due("16: groups by the pieces' bits", 2101, () -> x.move(0));
 
         // A staple around a bar goes along it: kept at one and two steps, free at three.
-        BlockWorkshop y = with(new int[] {0, 1, 2, 16, 18}, new int[] {17, 21, 25});
-        y.put(0, set(0, 1, 2, 16, 18));
-        y.put(1, set(17, 21, 25));
+        BlockWorkshop y = Build.with(new int[] {0, 1, 2, 16, 18}, new int[] {17, 21, 25});
+        y.put(0, Build.set(0, 1, 2, 16, 18));
+        y.put(1, Build.set(17, 21, 25));
         Check.due("14: a staple around a bar", 1, () -> y.plan(3, 300));
         Check.due("16: the first way out", 1203, () -> y.move(0));
         Check.due("15: kept on the way", 3, y::states);
@@ -453,9 +422,9 @@ public final class PromiseTest {
     }
 
     private static void planOfLinkedRings() {
-        BlockWorkshop x = with(RING, LINKED_RING, new int[] {63});
-        x.put(0, set(RING));
-        x.put(1, set(LINKED_RING));
+        BlockWorkshop x = Build.with(RING, LINKED_RING, new int[] {63});
+        x.put(0, Build.set(RING));
+        x.put(1, Build.set(LINKED_RING));
         Check.due("14: linked rings", -1, () -> x.plan(3, 300));
         Check.due("15: which can not move at all", 1, x::states);
         Check.due("14: no state more is none too many", -1, () -> x.plan(3, 1));
@@ -467,7 +436,7 @@ public final class PromiseTest {
     }
 
     private static void planRefuses() {
-        BlockWorkshop x = with(new int[] {0}, new int[] {0}, new int[] {0});
+        BlockWorkshop x = Build.with(new int[] {0}, new int[] {0}, new int[] {0});
         x.put(0, 1L);
         x.put(1, 2L);
         x.plan(3, 300);
@@ -475,7 +444,7 @@ public final class PromiseTest {
         for (int part : noParts) {
             Check.refused("14: part " + part, Check.ARGUMENT, () -> x.plan(part, 300));
         }
-        for (int limit : new int[] {0, 301, -1, Integer.MIN_VALUE, Integer.MAX_VALUE}) {
+        for (int limit : Build.NO_LIMITS) {
             Check.refused("14: limit " + limit, Check.ARGUMENT, () -> x.plan(3, limit));
         }
         Check.due("15: refused looks are none", 1, x::states);
@@ -488,9 +457,9 @@ public final class PromiseTest {
     private static void statesAndMoves() {
         int[] first = {5, 6, 22, 23, 38, 53, 54, 56, 57, 60};
         int[] second = {17, 18, 21, 25, 26, 27, 33, 43, 58, 59};
-        BlockWorkshop x = with(new int[] {0}, first, second);
-        x.put(1, set(first));
-        x.put(2, set(second));
+        BlockWorkshop x = Build.with(new int[] {0}, first, second);
+        x.put(1, Build.set(first));
+        x.put(2, Build.set(second));
         Check.due("14: five moves", 5, () -> x.plan(6, 300));
         Check.due("15: states", 8, x::states);
         int[] moves = {2501, 2001, 2301, 2001, 2303};
@@ -501,7 +470,7 @@ public final class PromiseTest {
         for (int k : new int[] {-1, 5, Integer.MIN_VALUE, Integer.MAX_VALUE}) {
             Check.refused("16: move " + k, Check.INDEX, () -> x.move(k));
         }
-        Check.due("14: the assembly stays", set(first), () -> x.cells(1));
+        Check.due("14: the assembly stays", Build.set(first), () -> x.cells(1));
         for (int limit = 1; limit < 8; limit++) {
             int most = limit;
             Check.due("14: given up at " + most, -2, () -> x.plan(6, most));
@@ -515,7 +484,7 @@ public final class PromiseTest {
     }
 
     private static void manyCallsInOneRun() {
-        BlockWorkshop x = with(new int[] {0, 1, 2, 4, 17}, new int[] {0, 1, 2, 4, 17}, new int[] {0, 1});
+        BlockWorkshop x = Build.with(new int[] {0, 1, 2, 4, 17}, new int[] {0, 1, 2, 4, 17}, new int[] {0, 1});
         for (int cell = 0; cell < 64; cell++) {
             x.target(cell, 2);
         }
